@@ -23,12 +23,14 @@ public final class LampWires {
 
     private final Board board = new Board();
     private final Ways ways = new Ways();
+    private final TurnTable table = new TurnTable();
+    private final Frames frames = new Frames();
+    private final FrameFinder finder = new FrameFinder();
+    private final Unions unions = new Unions();
     /** One row for all searches, each of which clears it first: all calls share one room. */
     private final long[] scratch = new long[FrameFinder.ROW];
-    private final TurnTable table = new TurnTable(scratch);
-    private final Frames frames = new Frames();
-    private final FrameFinder finder = new FrameFinder(scratch);
-    private final Unions unions = new Unions(scratch);
+    /** The light of each lamp in parts, as it was summed up latest. */
+    private final int[] lightParts = new int[MOST_LAMPS];
     private final Tape tape = new Tape();
     private final Script script = new Script();
     private final Guesses guesses = new Guesses();
@@ -192,7 +194,7 @@ public final class LampWires {
         }
         if (!unions.known) {
             fillTable();
-            unions.reckon(table, board.lampCount);
+            unions.reckon(table, board.lampCount, scratch);
         }
         return unions.atMost[n];
     }
@@ -228,14 +230,14 @@ public final class LampWires {
         if (!board.isLamp(l) || !isFractionPart(what)) {
             return BAD;
         }
-        return hasPlan() ? fraction(partsInPlan(l), what) : NONE;
+        return gatherPlanLight() ? fraction(lightParts[l], what) : NONE;
     }
 
     public int uneven(int what) {
         if (!isFractionPart(what)) {
             return BAD;
         }
-        return hasPlan() ? fraction(farthestApart(), what) : NONE;
+        return gatherPlanLight() ? fraction(farthestApart(), what) : NONE;
     }
 
     // ---- programs
@@ -318,7 +320,8 @@ public final class LampWires {
                 return ticksDark(l);
             case 2:
             case 3:
-                return fraction(partsInRound(l), what - 2);
+                gatherRoundLight();
+                return fraction(lightParts[l], what - 2);
             default:
                 return BAD;
         }
@@ -507,7 +510,7 @@ public final class LampWires {
 
     private void fillTable() {
         if (!table.full) {
-            table.fill(board, ways);
+            table.fill(board, ways, scratch);
         }
     }
 
@@ -534,40 +537,47 @@ public final class LampWires {
         return (lampsIn(turn) >> l & 1) != 0;
     }
 
-    /** The light of a lamp in one tick of a turn, in parts. */
-    private int share(int l, int turn) {
-        int lamps = lampsIn(turn);
-        int together = Integer.bitCount(lamps);
-        return together < 1 || (lamps >> l & 1) == 0 ? 0 : PARTS / together;
-    }
-
     private Frame frameOf(int picture) {
         Frame frame = frames.find(picture);
         if (!frame.known) {
             fillTable();
-            finder.fill(frame, picture, table);
+            finder.fill(frame, picture, table, scratch);
         }
         return frame;
     }
 
-    private boolean hasPlan() {
+    /** Sums up the light of each lamp in the plan; whether there is one. */
+    private boolean gatherPlanLight() {
+        Arrays.fill(lightParts, 0);
         for (int p = 0; p < PLANES; p++) {
-            if (frameOf(board.plane(p)).size == NONE) {
+            Frame frame = frameOf(board.plane(p));
+            if (frame.size == NONE) {
                 return false;
+            }
+            for (int i = 0; i < frame.size; i++) {
+                addLight(frame.turns[i], 1 << p);
             }
         }
         return true;
     }
 
-    private int partsInPlan(int l) {
-        int parts = 0;
-        for (int p = 0; p < PLANES; p++) {
-            Frame frame = frameOf(board.plane(p));
-            for (int i = 0; i < frame.size; i++) {
-                parts += share(l, frame.turns[i]) << p;
-            }
+    private void gatherRoundLight() {
+        Arrays.fill(lightParts, 0);
+        for (int k = 0; k < script.lines; k++) {
+            addLight(script.turn[k], script.ticks[k]);
         }
-        return parts;
+    }
+
+    private void addLight(int turn, int ticks) {
+        int lamps = lampsIn(turn);
+        int together = Integer.bitCount(lamps);
+        if (together < 1) {
+            return;
+        }
+        int parts = PARTS / together * ticks;
+        for (int l = 0; l < board.lampCount; l++) {
+            lightParts[l] += (lamps >> l & 1) * parts;
+        }
     }
 
     /** The most parts by which the light of two lamps of one level above 0 differs. */
@@ -578,9 +588,8 @@ public final class LampWires {
             int most = 0;
             for (int l = 0; l < board.lampCount; l++) {
                 if (board.level[l] == v) {
-                    int parts = partsInPlan(l);
-                    least = Math.min(least, parts);
-                    most = Math.max(most, parts);
+                    least = Math.min(least, lightParts[l]);
+                    most = Math.max(most, lightParts[l]);
                 }
             }
             farthest = Math.max(farthest, most - least);
@@ -638,14 +647,6 @@ public final class LampWires {
             }
         }
         return lit ? most : NONE;
-    }
-
-    private int partsInRound(int l) {
-        int parts = 0;
-        for (int k = 0; k < script.lines; k++) {
-            parts += share(l, script.turn[k]) * script.ticks[k];
-        }
-        return parts;
     }
 
     // ---- classes inside
@@ -822,26 +823,24 @@ public final class LampWires {
         private void leadOver(int middle, int others) {
             for (int a = 0; a < wireCount; a++) {
                 int into = a * MOST_WIRES + middle;
-                if ((others >> a & 1) != 0 && sum[into] < FAR) {
-                    leadOn(a, into, middle, others);
+                if ((others >> a & 1) == 0 || sum[into] >= FAR) {
+                    continue;
+                }
+                for (int b = 0; b < wireCount; b++) {
+                    int on = middle * MOST_WIRES + b;
+                    if (b != a && (others >> b & 1) != 0 && sum[on] < FAR) {
+                        offer(a * MOST_WIRES + b, sum[into] + sum[on], lamps[into] | lamps[on]);
+                    }
                 }
             }
         }
 
-        private void leadOn(int a, int into, int middle, int others) {
-            for (int b = 0; b < wireCount; b++) {
-                int on = middle * MOST_WIRES + b;
-                if (b != a && (others >> b & 1) != 0 && sum[on] < FAR) {
-                    int pair = a * MOST_WIRES + b;
-                    int volts = sum[into] + sum[on];
-                    if (volts < sum[pair]) {
-                        sum[pair] = volts;
-                        lamps[pair] = 0;
-                    }
-                    if (volts == sum[pair]) {
-                        lamps[pair] |= lamps[into] | lamps[on];
-                    }
-                }
+        private void offer(int pair, int volts, int over) {
+            if (volts < sum[pair]) {
+                sum[pair] = volts;
+                lamps[pair] = over;
+            } else if (volts == sum[pair]) {
+                lamps[pair] |= over;
             }
         }
 
@@ -885,17 +884,15 @@ public final class LampWires {
         private int turnCount;
         /** A set of wires (bits) as figures 0 and 1 to the base 3. */
         private final int[] figures = new int[SETS];
-        private final long[] met;
 
-        TurnTable(long[] scratch) {
-            met = scratch;
+        TurnTable() {
             for (int set = 1; set < SETS; set++) {
                 figures[set] = figures[set >> 1] * 3 + (set & 1);
             }
         }
 
         /** All turns with the same free wires share one search for ways. */
-        void fill(Board board, Ways ways) {
+        void fill(Board board, Ways ways, long[] scratch) {
             ways.load(board, board.state);
             turnCount = POWERS[board.wireCount];
             int all = (1 << board.wireCount) - 1;
@@ -903,7 +900,7 @@ public final class LampWires {
                 ways.leave(free);
                 fillDriven(ways, all & ~free);
             }
-            gatherKinds();
+            gatherKinds(scratch);
             tally();
             full = true;
         }
@@ -920,7 +917,7 @@ public final class LampWires {
             }
         }
 
-        private void gatherKinds() {
+        private void gatherKinds(long[] met) {
             Arrays.fill(met, 0L);
             kinds = 0;
             for (int turn = 0; turn < turnCount; turn++) {
@@ -1023,18 +1020,16 @@ public final class LampWires {
         static final int ROW = (1 << MOST_LAMPS) / 16;
 
         private int picture;
-        private final long[] failed;
+        /** For each set of lamps that are covered: how many turns more were too few. */
+        private long[] failed;
         /** The sets that suit the picture and lie in no other one: no others are needed to count. */
         private int wideCount;
         private final int[] wide = new int[MOST_TURNS];
         private int widest;
 
-        FrameFinder(long[] scratch) {
-            failed = scratch;
-        }
-
-        void fill(Frame frame, int wanted, TurnTable table) {
+        void fill(Frame frame, int wanted, TurnTable table, long[] scratch) {
             picture = wanted;
+            failed = scratch;
             frame.picture = wanted;
             frame.known = true;
             frame.size = NONE;
@@ -1157,22 +1152,20 @@ public final class LampWires {
         private int kinds;
         private final int[] ordered = new int[MOST_TURNS];
         private int words;
-        private final long[] rows;
+        private long[] rows;
 
-        Unions(long[] scratch) {
+        void reckon(TurnTable table, int lampCount, long[] scratch) {
             rows = scratch;
-        }
-
-        void reckon(TurnTable table, int lampCount) {
             words = 1 << Math.min(lampCount, LOWER);
             order(table);
             Arrays.fill(rows, 0L);
             rows[MET] = 1L;
             rows[FRONT] = 1L;
+            int all = 1 << lampCount;
             int found = 1;
             atMost[0] = 1;
             for (int n = 1; n <= MOST_LAMPS; n++) {
-                found = found == 0 ? 0 : advance();
+                found = found == 0 || atMost[n - 1] == all ? 0 : advance();
                 atMost[n] = atMost[n - 1] + found;
             }
             known = true;
@@ -1293,7 +1286,7 @@ public final class LampWires {
 
         /** Wires, one at least, up to the name that follows them. */
         private boolean readWires(int figure, int follower) {
-            if (!nextIs(NUMBER)) {
+            if (!next() || !tokenIs(NUMBER)) {
                 return false;
             }
             for (int i = 0; i < TAPE_BYTES && token == NUMBER; i++) {
@@ -1301,7 +1294,7 @@ public final class LampWires {
                     return false;
                 }
             }
-            return token == follower || refuse(MISPLACED);
+            return tokenIs(follower);
         }
 
         private boolean takeWire(int figure) {
@@ -1317,7 +1310,7 @@ public final class LampWires {
         }
 
         private boolean readTicks() {
-            if (!nextIs(NUMBER)) {
+            if (!next() || !tokenIs(NUMBER)) {
                 return false;
             }
             if (value < 1 || value > MOST_TICKS) {
@@ -1325,7 +1318,7 @@ public final class LampWires {
             }
             turn[lines] = lineTurn;
             ticks[lines] = value;
-            if (!nextIs(SEMICOLON)) {
+            if (!next() || !tokenIs(SEMICOLON)) {
                 return false;
             }
             lines++;
@@ -1338,22 +1331,20 @@ public final class LampWires {
             return false;
         }
 
-        private boolean nextIs(int wanted) {
-            return next() && (token == wanted || refuse(MISPLACED));
+        private boolean tokenIs(int wanted) {
+            return token == wanted || refuse(MISPLACED);
         }
 
         /** Reads a token; whether it is one (the end is one, too). */
         private boolean next() {
             place = behindRun(behind, BLANK, BLANK);
-            behind = place + 1;
             if (place >= length) {
-                place = length;
-                behind = length;
                 token = END;
                 return true;
             }
             int first = bytes[place];
             if (first == ';') {
+                behind = place + 1;
                 token = SEMICOLON;
                 return true;
             }

@@ -10,12 +10,17 @@ public final class RandomRunsTest {
     private final Random r;
     private final int run;
     private final int mostLamps;
+    /** Faults that what is seen mostly comes of, so that guesses have something to find. */
+    private final int trueFirst;
+    private final int trueSecond;
 
     private RandomRunsTest(int run) {
         this.run = run;
         this.r = new Random(run);
         // Pictures of many lamps take the model long.
         this.mostLamps = run % 10 == 0 ? 16 : 3 + run % 7;
+        this.trueFirst = r.nextInt(8);
+        this.trueSecond = r.nextInt(8);
     }
 
     private void due(String call, int got, int want) {
@@ -44,10 +49,12 @@ public final class RandomRunsTest {
         int a = below(m.count(0));
         int b = below(m.count(0));
         int v = r.nextInt(3) == 0 ? below(11) : 1 + r.nextInt(2);
-        switch (r.nextInt(6)) {
+        switch (r.nextInt(7)) {
             case 0:
+            case 6:
                 int l = below(m.count(1));
-                due("hurt(" + l + ", " + a + ")", x.hurt(l, a % 3), m.hurt(l, a % 3));
+                int how = r.nextInt(3) == 0 ? below(3) : 0;
+                due("hurt(" + l + ", " + how + ")", x.hurt(l, how), m.hurt(l, how));
                 break;
             case 1:
                 int s = r.nextInt(3) == 0 ? below(32) : 2 + r.nextInt(9);
@@ -57,15 +64,30 @@ public final class RandomRunsTest {
                 due("between(" + a + ", " + b + ")", x.between(a, b), m.between(a, b));
                 break;
             case 3:
-                int w = r.nextInt(9);
                 if (r.nextInt(12) == 0) {
+                    int w = r.nextInt(9);
                     due("wires(" + w + ")", x.wires(w), m.wires(w));
+                    fillUp();
                 }
                 break;
             default:
                 if (m.count(1) < mostLamps || mostLamps == 16) {
                     due("lamp(" + a + ", " + b + ", " + v + ")", x.lamp(a, b, v), m.lamp(a, b, v));
                 }
+        }
+    }
+
+    /** So many lamps as this run has, all of few unlike volts, and a program. */
+    private void fillUp() {
+        int unlike = 1 + r.nextInt(3);
+        for (int i = 0; i < 120 && m.count(1) < mostLamps; i++) {
+            int a = r.nextInt(m.count(0));
+            int b = r.nextInt(m.count(0));
+            int v = 1 + r.nextInt(unlike);
+            due("lamp(" + a + ", " + b + ", " + v + ")", x.lamp(a, b, v), m.lamp(a, b, v));
+        }
+        if (r.nextInt(4) != 0) {
+            feeding();
         }
     }
 
@@ -144,7 +166,7 @@ public final class RandomRunsTest {
         for (int i = 0; i < lines; i++) {
             text.append(r.nextInt(40) == 0 ? "dark 1;" : lines == 13 ? "dark " + r.nextInt(62) % 61 + ";" : lineText());
         }
-        if (r.nextInt(2) == 0 && text.length() > 0) {
+        if (r.nextInt(3) == 0 && text.length() > 0) {
             int place = r.nextInt(text.length());
             int behind = r.nextBoolean() ? place : Math.min(text.length(), place + r.nextInt(4));
             text.replace(place, behind, r.nextInt(8) == 0 ? "" + (char) r.nextInt(256) : WORDS[r.nextInt(WORDS.length)]);
@@ -171,9 +193,7 @@ public final class RandomRunsTest {
         int t = below(10000);
         switch (r.nextInt(6)) {
             case 0:
-                if (r.nextInt(3) == 0) {
-                    feeding();
-                }
+                feeding();
                 break;
             case 1:
                 due("round(" + what + ")", x.round(what), m.round(what));
@@ -193,22 +213,25 @@ public final class RandomRunsTest {
         int k = below(m.count(5));
         int f = r.nextInt(4) == 0 ? -4 : below(2 * m.count(1));
         int g = r.nextInt(4) == 0 ? -4 : below(2 * m.count(1));
+        if (r.nextInt(3) != 0) {
+            f = trueFirst % Math.max(1, 2 * m.count(1));
+            g = trueSecond % Math.max(1, 2 * m.count(1));
+        }
         switch (r.nextInt(6)) {
             case 0:
                 int turn = turn();
                 due("would(" + turn + ", " + f + ", " + g + ")", x.would(turn, f, g), m.would(turn, f, g));
                 break;
             case 1:
-                due("tells(" + k + ")", x.tells(k % 3), m.tells(k % 3));
+                due("tells(" + k % 3 + ")", x.tells(k % 3), m.tells(k % 3));
                 break;
             case 2:
                 int what = r.nextInt(3) == 0 ? below(2) : 1000 * (1 + r.nextInt(2)) + below(3);
                 due("likely(" + what + ")", x.likely(what), m.likely(what));
                 break;
             default:
-                // What some faults would show, so that guesses are often right.
                 int told = m.would(Math.max(0, m.line(k, 0)), f, g);
-                int bits = r.nextInt(3) == 0 ? picture() : told < 0 ? -4 : told;
+                int bits = r.nextInt(12) == 0 ? picture() : told < 0 ? -4 : told;
                 due("seen(" + k + ", " + bits + ")", x.seen(k, bits), m.seen(k, bits));
         }
     }
@@ -246,11 +269,9 @@ public final class RandomRunsTest {
             int w = mostLamps > 6 ? 4 + r.nextInt(3) : 2 + r.nextInt(4);
             due("wires(" + w + ")", x.wires(w), m.wires(w));
         }
-        for (int i = 0; i < 16; i++) {
-            wiring();
-        }
+        fillUp();
         for (int i = 0; i < 240 && !CHECK.spoiled(); i++) {
-            switch (r.nextInt(mostLamps == 16 ? 5 : 7)) {
+            switch (r.nextInt(mostLamps == 16 ? 5 : 9)) {
                 case 0:
                     wiring();
                     break;
@@ -267,6 +288,7 @@ public final class RandomRunsTest {
                     turning();
                     break;
                 case 5:
+                case 6:
                     guessing();
                     break;
                 default:
