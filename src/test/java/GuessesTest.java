@@ -95,9 +95,41 @@ public final class GuessesTest {
         C.due("so no fault", x.likely(0), 0);
         x.seen(0, 0);
         C.due("one", x.likely(0), 1);
-        x.lamp(0, 2, 1);
+        C.due("its guesses", x.likely(1), 2);
+        C.due("two faults tell", x.tells(0), 2);
+        x.lamp(3, 1, 1);
+        x.lamp(0, 3, 1);
+        C.due("a way round lamp 0: it must be shorted", x.likely(1), 1);
+        guess(x, 0, 1, -4);
+        // Lamp 0 either way, and each lamp of the way round shorted, which makes that as short as lamp 0's.
+        C.due("what tells is weighed anew", x.tells(0), 4);
         x.seen(0, 5);
-        C.due("lamp 2 comes into a guess", x.likely(0), -4);
+        C.due("lamps 0 and 2: one fault", x.likely(0), 1);
+        guess(x, 0, 7, -4);
+    }
+
+    private static void sixteen() {
+        LampWires x = new LampWires();
+        x.wires(6);
+        for (int i = 0; i < 16; i++) {
+            x.lamp(i % 4, 4 + i / 8, 1);
+            x.lamp(4 + i % 2, i / 4, 1);
+        }
+        C.due("sixteen lamps", x.count(1), 16);
+        C.due("told", Check.tell(x, "high 0 1 2 3 low 4 5 for 1;"), 1);
+        int all = x.line(0, 3);
+        C.due("eight glow", Integer.bitCount(all), 8);
+        x.seen(0, 0);
+        C.due("a short: one fault", x.likely(0), 1);
+        C.due("of each that lies between, or leads back", x.likely(1), 16);
+        x.seen(0, all & all - 1);
+        C.due("one dark: broken", x.likely(1), 1);
+        int others = all & all - 1;
+        x.seen(0, others & others - 1);
+        C.due("two dark: both broken", x.likely(0), 2);
+        C.due("one guess", x.likely(1), 1);
+        x.seen(0, all ^ 65535);
+        C.due("the others: it can not be", x.likely(0), -4);
     }
 
     private static void tells() {
@@ -149,6 +181,7 @@ public final class GuessesTest {
         seen();
         likely();
         apart();
+        sixteen();
         tells();
         would();
         C.finish();

@@ -135,12 +135,66 @@ public final class PicturesTest {
         C.due("level 0 is not looked at", x.uneven(0), 0);
     }
 
+    /** Lamp 0 alone, two others always together: at each level the first has twice their light. */
+    private static void apart() {
+        for (int v = 1; v <= 15; v++) {
+            LampWires x = new LampWires();
+            x.lamp(0, 1, 1);
+            x.lamp(2, 1, 3);
+            x.lamp(3, 2, 3);
+            x.supply(6);
+            x.hurt(1, 1);
+            x.lamp(2, 0, 3);
+            x.level(0, v);
+            x.level(2, v);
+            x.level(3, v);
+            // Lamps 2 and 3 glow alone as well, so each is shown by the fewest turns only.
+            C.due("plan of level " + v, x.plan(0) > 0 ? 1 : 0, 1);
+            int sum = 0;
+            for (int l = 0; l < 4; l++) {
+                sum += x.light(l, 0) * 60 / x.light(l, 1);
+            }
+            C.due("all light is shared at level " + v, sum, 60 * x.plan(0));
+            int most = 0;
+            for (int l = 0; l < 4; l++) {
+                for (int m = 0; m < 4; m++) {
+                    if (l != 1 && m != 1) {
+                        most = Math.max(most, x.light(l, 0) * 60 / x.light(l, 1) - x.light(m, 0) * 60 / x.light(m, 1));
+                    }
+                }
+            }
+            C.due("farthest apart at level " + v, x.uneven(0) * 60 / x.uneven(1), most);
+            C.holds("they are apart at level " + v, most > 0);
+        }
+    }
+
+    private static void sixteen() {
+        LampWires x = new LampWires();
+        x.wires(6);
+        for (int i = 0; i < 16; i++) {
+            x.lamp(i % 4, 4 + i / 8, 1);
+            x.lamp(4 + i % 2, i / 4, 1);
+        }
+        C.due("sixteen lamps", x.count(1), 16);
+        for (int l = 0; l < 16; l++) {
+            x.level(l, 15);
+        }
+        C.due("two turns for all", x.frame(65535), 2);
+        C.due("SPAN", x.plan(0), 30);
+        C.due("an eighth of each tick", x.light(15, 0), 15);
+        C.due("by eight", x.light(15, 1), 8);
+        C.due("all alike", x.uneven(0), 0);
+        C.due("each picture", x.shown(16), 65536);
+    }
+
     public static void main(String[] args) {
         frame();
         sets();
         level();
         plan();
         thirds();
+        apart();
+        sixteen();
         C.finish();
     }
 }

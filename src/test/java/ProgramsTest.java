@@ -47,6 +47,12 @@ public final class ProgramsTest {
         refused("dark 1;" + (char) 200, 1, 7);
         refused("darks 1;", 1, 0);
         refused("highlow", 1, 0);
+        refused("bark 1;", 1, 0);
+        refused("sigh 1", 1, 0);
+        refused("high 0 tow", 1, 7);
+        refused("high 0 low 1 nor", 1, 13);
+        refused("zz", 1, 0);
+        refused("a", 1, 0);
         refused("dark 001;", 1, 5);
         refused("high 0 low 1 for 100;", 1, 17);
         refused("123", 1, 0);
@@ -180,6 +186,8 @@ public final class ProgramsTest {
         C.due("at(9999)", x.at(9999), 3);
         C.due("at(10000)", x.at(10000), -1);
         C.due("at(-1)", x.at(-1), -1);
+        Check.tell(x, "high 0 low 1 for 1;");
+        C.due("a round of one tick", x.at(77), 1);
         Check.tell(x, " ");
         C.due("no lines", x.at(0), -2);
         C.due("BAD before STATE", x.at(10000), -1);

@@ -67,7 +67,9 @@ public final class RandomRunsTest {
                 if (r.nextInt(12) == 0) {
                     int w = r.nextInt(9);
                     due("wires(" + w + ")", x.wires(w), m.wires(w));
-                    fillUp();
+                    if (r.nextInt(3) != 0) {
+                        fillUp();
+                    }
                 }
                 break;
             default:

@@ -57,6 +57,13 @@ public final class WiresTest {
         C.due("no wire 2", x.lamp(0, 2, 1), -1);
         C.due("turn 9 is none", x.glow(9, 0), -1);
         C.due("turn 8 is one", x.glow(8, 0), 0);
+        x.lamp(0, 1, 1);
+        C.due("it glows", x.turns(1), 1);
+        C.due("shown", x.shown(16), 2);
+        x.wires(2);
+        C.due("what glowed is gone", x.turns(1), 0);
+        C.due("its turn, too", x.glow(7, 0), 0);
+        C.due("and what was shown", x.shown(16), 1);
     }
 
     private static void supply() {
