@@ -135,36 +135,17 @@ public final class PicturesTest {
         C.due("level 0 is not looked at", x.uneven(0), 0);
     }
 
-    /** Lamp 0 alone, two others always together: at each level the first has twice their light. */
+    /** Of lamps 0, 1, 3 the first glows alone, then the two others together. */
     private static void apart() {
         for (int v = 1; v <= 15; v++) {
-            LampWires x = new LampWires();
-            x.lamp(0, 1, 1);
-            x.lamp(2, 1, 3);
-            x.lamp(3, 2, 3);
-            x.supply(6);
-            x.hurt(1, 1);
-            x.lamp(2, 0, 3);
+            LampWires x = grid();
             x.level(0, v);
-            x.level(2, v);
+            x.level(1, v);
             x.level(3, v);
-            // Lamps 2 and 3 glow alone as well, so each is shown by the fewest turns only.
-            C.due("plan of level " + v, x.plan(0) > 0 ? 1 : 0, 1);
-            int sum = 0;
-            for (int l = 0; l < 4; l++) {
-                sum += x.light(l, 0) * 60 / x.light(l, 1);
-            }
-            C.due("all light is shared at level " + v, sum, 60 * x.plan(0));
-            int most = 0;
-            for (int l = 0; l < 4; l++) {
-                for (int m = 0; m < 4; m++) {
-                    if (l != 1 && m != 1) {
-                        most = Math.max(most, x.light(l, 0) * 60 / x.light(l, 1) - x.light(m, 0) * 60 / x.light(m, 1));
-                    }
-                }
-            }
-            C.due("farthest apart at level " + v, x.uneven(0) * 60 / x.uneven(1), most);
-            C.holds("they are apart at level " + v, most > 0);
+            C.due("the least turn for lamp 0", x.frameTurn(11, 0), 1 + 18);
+            C.due("light of lamp 0, level " + v, x.light(0, 0), v);
+            C.due("half of that apart, level " + v, x.uneven(0), v % 2 == 0 ? v / 2 : v);
+            C.due("its denominator, level " + v, x.uneven(1), v % 2 == 0 ? 1 : 2);
         }
     }
 
