@@ -86,6 +86,15 @@ final class EdgesOfGuesses {
         x.seen(0, -4);
         x.seen(1, -4);
         s.due(x.likely(0), 0);
+        x.seen(0, 0);
+        s.due(x.likely(0), 1);
+        Check.tell(x, "high 0 low 1 for 1;");
+        s.due(x.likely(0), 0);
+        x.seen(0, 0);
+        s.due(x.likely(1), 2);
+        // Behind a lamp that leads back a short fits, too.
+        x.lamp(1, 0, 1);
+        s.due(x.likely(1), 3);
         x = s.says("1 how many GUESSES");
         s.due(x.likely(1), 1);
         groups(x);
@@ -140,7 +149,11 @@ final class EdgesOfGuesses {
         x.hurt(1, 2);
         s.due(x.tells(0), 4);
         Check.tell(x, "high 0 low 1 for 1;");
+        s.due(x.glow(Sentences.turn("+-.."), 0), 0);
         s.due(x.tells(0), 2);
+        // A lamp that comes behind is one more that tells.
+        x.lamp(1, 0, 1);
+        s.due(x.tells(0), 3);
         x = s.says("the first that changes nothing in any (1; NONE).");
         s.due(x.tells(1), -4);
         x.lamp(0, 1, 1);

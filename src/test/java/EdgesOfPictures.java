@@ -140,10 +140,40 @@ final class EdgesOfPictures {
         sixteen(x);
         s.due(x.shown(0), 1);
         s.due(x.shown(16), 65536);
+        shownByOne(s);
         LampWires y = s.says("BAD.");
         s.each(-1, y::shown, LEAST, -1, 17, MOST);
         sixteen(y);
         s.each(-1, y::shown, LEAST, -1, 17, MOST);
+    }
+
+    /** By one turn at most the sets that can glow are shown, and no others. */
+    private static void shownByOne(Sentences s) {
+        LampWires x = new LampWires();
+        x.supply(1);
+        sixteen(x);
+        // One to four of the wires 0 to 3 with one or both of 4, 5, either way; two unlike sets of the four, the one
+        // with 4, the other with 5, both ways at once; and none.
+        s.due(x.sets(), 2 * 15 * 3 + 2 * 50 + 1);
+        s.due(x.shown(1), 2 * 15 * 3 + 2 * 50 + 1);
+        // Lamps 10 to 15 are those from wires 1, 2 to wires 3, 4, 5, and glow together.
+        x.wires(6);
+        for (int i = 0; i < 10; i++) {
+            x.lamp(i < 7 ? 3 + i % 3 : 0, i < 7 ? i / 3 : 3 + i % 3, 1);
+        }
+        for (int i = 0; i < 6; i++) {
+            x.lamp(1 + i / 3, 3 + i % 3, 1);
+        }
+        s.due(x.count(1), 16);
+        s.due(x.glow(Sentences.turn(".++---"), 0), 63 << 10);
+        s.due(x.shown(1), x.sets());
+        // Of eleven lamps the last one alone.
+        for (int l = 0; l < 16; l++) {
+            x.hurt(l, l == 10 ? 0 : 1);
+        }
+        s.due(x.sets(), 2);
+        s.due(x.shown(1), 2);
+        s.due(x.shown(0), 1);
     }
 
     private static void level(Sentences s) {
@@ -274,6 +304,11 @@ final class EdgesOfPictures {
         x.level(3, 14);
         s.due(x.uneven(0), 7);
         s.due(x.uneven(1), 1);
+        x.level(0, 1);
+        x.level(1, 1);
+        x.level(3, 1);
+        s.due(x.uneven(0), 1);
+        s.due(x.uneven(1), 2);
         x = s.says("(0 by 1: there are no two)");
         s.due(x.uneven(0), 0);
         s.due(x.uneven(1), 1);

@@ -188,6 +188,8 @@ final class EdgesOfPrograms {
         s.due(x.round(1), 0);
         Check.tell(x, "dark 1;high 0 low 1 for 1;high 2 low 3 for 1;");
         s.due(x.round(1), 3);
+        Check.tell(x, "high 0 low 1 for 1;high 2 low 3 for 1;dark 1;");
+        s.due(x.round(1), 3);
         x = s.says("in all LINES (2, bits; no lines: none)");
         x.lamp(0, 1, 1);
         x.lamp(2, 3, 1);
@@ -195,6 +197,8 @@ final class EdgesOfPrograms {
         Check.tell(x, "high 0 2 low 1 3 for 1;");
         s.due(x.round(2), 3);
         Check.tell(x, "high 0 2 low 1 3 for 1;high 2 low 3 for 1;");
+        s.due(x.round(2), 2);
+        Check.tell(x, "high 2 low 3 for 1;high 0 2 low 1 3 for 1;");
         s.due(x.round(2), 2);
         Check.tell(x, "high 0 2 low 1 3 for 1;high 2 low 3 for 1;dark 1;");
         s.due(x.round(2), 0);

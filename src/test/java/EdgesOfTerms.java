@@ -84,6 +84,11 @@ final class EdgesOfTerms {
         x.hurt(1, 2);
         s.due(x.glow(Sentences.turn("+.-."), 1), 2);
         s.due(x.glow(Sentences.turn("-.+."), 1), -4);
+        x.hurt(1, 0);
+        x.hurt(0, 2);
+        x.lamp(0, 3, 4);
+        s.due(x.glow(Sentences.turn(".+.-"), 1), 4);
+        s.due(x.glow(Sentences.turn(".+.-"), 0), 4);
         x = s.says("; it never GLOWS)");
         x.lamp(0, 1, 2);
         x.lamp(1, 2, 3);
@@ -128,6 +133,18 @@ final class EdgesOfTerms {
         s.due(x.glow(Sentences.turn("+--."), 0), 1);
         s.due(x.glow(Sentences.turn("+.+."), 1), -4);
         s.due(x.glow(Sentences.turn("-.-."), 1), -4);
+        s.due(x.glow(Sentences.turn("+..."), 1), -4);
+        s.due(x.glow(Sentences.turn("..-."), 1), -4);
+        // A way that each wire begins, passes or ends.
+        for (int w = 0; w < 4; w++) {
+            x.wires(4);
+            x.lamp(w, (w + 1) % 4, 1);
+            x.lamp((w + 1) % 4, (w + 2) % 4, 1);
+            int[] powers = {1, 3, 9, 27};
+            s.due(x.glow(powers[w] + 2 * powers[(w + 2) % 4], 0), 3);
+            s.due(x.glow(powers[w], 1), -4);
+            s.due(x.glow(2 * powers[(w + 2) % 4], 1), -4);
+        }
     }
 
     private static void glowing(Sentences s) {
@@ -316,6 +333,10 @@ final class EdgesOfTerms {
         x.lamp(0, 1, 1);
         Check.tell(x, "dark 3;high 0 low 1 for 1;dark 5;high 0 low 1 for 1;dark 4;");
         s.due(x.shows(0, 1), 7);
+        Check.tell(x, "dark 9;high 0 low 1 for 1;");
+        s.due(x.shows(0, 1), 9);
+        Check.tell(x, "high 0 low 1 for 1;dark 9;");
+        s.due(x.shows(0, 1), 9);
         Check.tell(x, "dark 3;high 0 low 1 for 1;dark 8;high 0 low 1 for 1;dark 4;");
         s.due(x.shows(0, 1), 8);
         Check.tell(x, "dark 60;".repeat(6) + "high 0 low 1 for 1;" + "dark 60;".repeat(5));
@@ -400,6 +421,23 @@ final class EdgesOfTerms {
         s.due(x.likely(2001), 3);
         s.due(x.likely(1002), 1);
         s.due(x.likely(2002), 2);
+        // The last two of sixteen lamps: faults 28 to 31. No other lamp leads straight between their wires.
+        x.wires(6);
+        int[] pairs = {1, 2, 3, 5, 6, 8, 9, 10, 12, 13, 15, 16, 17, 18};
+        for (int pair : pairs) {
+            x.lamp(pair / 6, pair % 6, 9);
+        }
+        x.lamp(0, 4, 1);
+        x.lamp(1, 5, 1);
+        s.due(x.count(1), 16);
+        Check.tell(x, "high 0 low 4 for 1;high 1 low 5 for 1;");
+        x.seen(0, 0);
+        x.seen(1, 0);
+        s.due(x.likely(1), 4);
+        for (int i = 0; i < 4; i++) {
+            s.due(x.likely(1000 + i), 28 + i / 2);
+            s.due(x.likely(2000 + i), 30 + i % 2);
+        }
     }
 
     private static void sheets(Sentences s) {

@@ -169,6 +169,12 @@ final class EdgesOfTexts {
         refuses(s, "dar 1;", 1, 0);
         refuses(s, "darks 1;", 1, 0);
         refuses(s, "light 1;", 1, 0);
+        refuses(s, "sigh 0", 1, 0);
+        refuses(s, "high 0 tow", 1, 7);
+        refuses(s, "high 0 low 1 nor", 1, 13);
+        refuses(s, "bark 1;", 1, 0);
+        refuses(s, "dirk 1;", 1, 0);
+        refuses(s, "dare 1;", 1, 0);
         s.says("a NUMBER that is too long (its first byte).");
         refuses(s, "dark 123;", 1, 5);
         refuses(s, "dark 000;", 1, 5);
