@@ -6,6 +6,7 @@ final class EdgesOfGuesses {
     static void look(Sentences s) {
         seen(s);
         likely(s);
+        likelyFaults(s);
         tells(s);
         would(s);
     }
@@ -95,6 +96,13 @@ final class EdgesOfGuesses {
         // Behind a lamp that leads back a short fits, too.
         x.lamp(1, 0, 1);
         s.due(x.likely(1), 3);
+        Check.tell(x, "high0low1for9;".repeat(12));
+        for (int k = 0; k < 12; k++) {
+            x.seen(k, 0);
+        }
+        s.due(x.likely(0), 1);
+        x.seen(11, 1);
+        s.due(x.likely(0), -4);
         x = s.says("1 how many GUESSES");
         s.due(x.likely(1), 1);
         groups(x);
@@ -105,6 +113,9 @@ final class EdgesOfGuesses {
         s.due(x.likely(1), 16);
         x.seen(1, 1);
         s.due(x.likely(1), 0);
+    }
+
+    private static void likelyFaults(Sentences s) {
         LampWires y = s.says("1000 and i: the first FAULT of GUESS i (NONE)");
         s.due(y.likely(1000), -4);
         groups(y);
@@ -154,6 +165,8 @@ final class EdgesOfGuesses {
         // A lamp that comes behind is one more that tells.
         x.lamp(1, 0, 1);
         s.due(x.tells(0), 3);
+        Check.tell(x, "dark 1;".repeat(11) + "high 2 low 3 for 1;");
+        s.due(x.tells(0), 2);
         x = s.says("the first that changes nothing in any (1; NONE).");
         s.due(x.tells(1), -4);
         x.lamp(0, 1, 1);

@@ -121,7 +121,8 @@ final class EdgesOfPictures {
 
     private static void shown(Sentences s) {
         s.of("Promise 15");
-        LampWires x = s.says("How many PICTURES (of all sets of LAMPS) can be shown by a FRAME of n TURNS at most (n 0 to 16).");
+        LampWires x = s.says("How many PICTURES (of all sets of LAMPS) can be shown by a FRAME of n TURNS at most "
+            + "(n 0 to 16).");
         s.due(x.shown(0), 1);
         s.due(x.shown(16), 1);
         single(x);
@@ -254,6 +255,17 @@ final class EdgesOfPictures {
         // Plane 0: lamp 0 alone; the planes above: it shares fourteen ticks.
         s.due(x.light(0, 0), 8);
         s.due(x.light(2, 0), 7);
+        sixteen(x);
+        for (int l = 0; l < 16; l++) {
+            x.level(l, 15);
+        }
+        // Eight one way, then the eight others, in each plane.
+        s.due(x.plan(0), 30);
+        for (int l = 0; l < 16; l++) {
+            s.due(x.light(l, 0), 15);
+            s.due(x.light(l, 1), 8);
+        }
+        s.due(x.uneven(0), 0);
         x = s.says("in lowest terms (above 0).");
         grid(x);
         s.due(x.light(0, 0), 0);

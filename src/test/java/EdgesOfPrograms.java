@@ -190,6 +190,8 @@ final class EdgesOfPrograms {
         s.due(x.round(1), 3);
         Check.tell(x, "high 0 low 1 for 1;high 2 low 3 for 1;dark 1;");
         s.due(x.round(1), 3);
+        Check.tell(x, "dark 1;".repeat(11) + "high 2 low 3 for 1;");
+        s.due(x.round(1), 2);
         x = s.says("in all LINES (2, bits; no lines: none)");
         x.lamp(0, 1, 1);
         x.lamp(2, 3, 1);
@@ -211,6 +213,12 @@ final class EdgesOfPrograms {
         s.due(x.round(3), 0);
         x.hurt(0, 2);
         s.due(x.round(3), 2);
+        Check.tell(x, "high0low1for9;".repeat(12));
+        s.due(x.round(3), 12);
+        s.due(x.round(2), 0);
+        x.hurt(0, 0);
+        s.due(x.round(3), 0);
+        s.due(x.round(2), 1);
         LampWires y = s.says("BAD.");
         s.each(-1, y::round, LEAST, -1, 4, MOST);
     }

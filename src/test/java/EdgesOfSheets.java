@@ -201,6 +201,13 @@ final class EdgesOfSheets {
         x.hurt(1, 2);
         s.due(x.count(3), 0);
         s.due(x.count(4), 2);
+        x.wires(6);
+        for (int l = 0; l < 16; l++) {
+            x.lamp(l / 5, (l / 5 + 1 + l % 5) % 6, 1);
+            x.hurt(l, 1);
+        }
+        s.due(x.count(3), 16);
+        s.due(x.count(4), 0);
         x = s.says("5 lines, 6 LINES that are SEEN");
         s.due(x.count(5), 0);
         Check.tell(x, "dark 1;".repeat(12));

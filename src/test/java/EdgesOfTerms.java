@@ -15,6 +15,8 @@ final class EdgesOfTerms {
         rounds(s);
         seen(s);
         guesses(s);
+        likely(s);
+        likelyOfSixteen(s);
         sheets(s);
         faultsOfSheets(s);
     }
@@ -220,7 +222,8 @@ final class EdgesOfTerms {
     }
 
     private static void frames(Sentences s) {
-        LampWires x = s.says("FRAME of a PICTURE: TURNS that SUIT it so that each of its LAMPS GLOWS in one of them: the fewest");
+        LampWires x = s.says("FRAME of a PICTURE: TURNS that SUIT it so that each of its LAMPS GLOWS in one of them: "
+            + "the fewest");
         grid(x);
         s.due(x.frame(1), 1);
         s.due(x.frame(3), 1);
@@ -228,6 +231,14 @@ final class EdgesOfTerms {
         s.due(x.frame(7), 2);
         s.due(x.frame(9), 2);
         s.due(x.frame(15), 1);
+        // What was found for wider pictures does not serve narrower ones.
+        x.wires(4);
+        grid(x);
+        for (int picture = 15; picture >= 0; picture--) {
+            boolean whole = picture == 3 || picture == 5 || picture == 10 || picture == 12 || picture == 15;
+            int lamps = Integer.bitCount(picture);
+            s.due(x.frame(picture), whole ? 1 : Math.min(lamps, 2));
+        }
         x = s.says("taken one by one: for the least LAMP that does not GLOW in one taken already the least TURN in which it "
             + "GLOWS and with which the fewest can still be had.");
         grid(x);
@@ -398,7 +409,10 @@ final class EdgesOfTerms {
             s.due(x.likely(1000 + i), i / 2);
             s.due(x.likely(2000 + i), 2 + i % 2);
         }
-        x = s.says("LIKELY: the GUESSES with the fewest FAULTS by which all LINES that are SEEN GLOW as told");
+    }
+
+    private static void likely(Sentences s) {
+        LampWires x = s.says("LIKELY: the GUESSES with the fewest FAULTS by which all LINES that are SEEN GLOW as told");
         x.lamp(0, 1, 1);
         x.lamp(2, 3, 1);
         Check.tell(x, "high 0 low 1 for 1;high 2 low 3 for 1;");
@@ -421,7 +435,11 @@ final class EdgesOfTerms {
         s.due(x.likely(2001), 3);
         s.due(x.likely(1002), 1);
         s.due(x.likely(2002), 2);
-        // The last two of sixteen lamps: faults 28 to 31. No other lamp leads straight between their wires.
+    }
+
+    /** The last two of sixteen lamps: faults 28 to 31. No other lamp leads straight between their wires. */
+    private static void likelyOfSixteen(Sentences s) {
+        LampWires x = s.says("in order of their first, then their second FAULT.");
         x.wires(6);
         int[] pairs = {1, 2, 3, 5, 6, 8, 9, 10, 12, 13, 15, 16, 17, 18};
         for (int pair : pairs) {

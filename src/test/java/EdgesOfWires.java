@@ -358,6 +358,11 @@ final class EdgesOfWires {
         x.supply(1);
         s.due(x.alone(2), -4);
         s.due(x.alone(1), Sentences.turn("+.-."));
+        x.wires(4);
+        x.lamp(0, 1, 1);
+        s.due(x.alone(0), Sentences.turn("+-.."));
+        x.hurt(0, 1);
+        s.due(x.alone(0), -4);
     }
 
     private static void astray(Sentences s) {
@@ -390,6 +395,9 @@ final class EdgesOfWires {
         x.supply(6);
         s.due(x.astray(0), Sentences.turn("+.-."));
         x.hurt(0, 2);
+        s.due(x.astray(0), -4);
+        x.wires(6);
+        x.lamp(4, 5, 1);
         s.due(x.astray(0), -4);
     }
 }
