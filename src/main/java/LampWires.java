@@ -583,16 +583,12 @@ public final class LampWires {
     /** The most parts by which the light of two lamps of one level above 0 differs. */
     private int farthestApart() {
         int farthest = 0;
-        for (int v = 1; v <= MOST_LEVEL; v++) {
-            int least = Integer.MAX_VALUE;
-            int most = 0;
-            for (int l = 0; l < board.lampCount; l++) {
-                if (board.level[l] == v) {
-                    least = Math.min(least, lightParts[l]);
-                    most = Math.max(most, lightParts[l]);
+        for (int a = 1; a < board.lampCount; a++) {
+            for (int b = 0; b < a; b++) {
+                if (board.level[a] > 0 && board.level[a] == board.level[b]) {
+                    farthest = Math.max(farthest, Math.abs(lightParts[a] - lightParts[b]));
                 }
             }
-            farthest = Math.max(farthest, most - least);
         }
         return farthest;
     }

@@ -49,6 +49,16 @@ final class EdgesOfPictures {
         s.due(x.frame(256), 1);
         s.due(x.frame(257), 2);
         s.due(x.frame(511), 9);
+        // Two of the nine have like volts and can share a turn; each of the others needs one of its own.
+        x.wires(6);
+        for (int l = 0; l < 9; l++) {
+            x.lamp(l / 3, 3 + l % 3, l < 2 ? 1 + l : l);
+        }
+        s.due(x.lampOf(1, 2), 2);
+        s.due(x.lampOf(2, 2), 2);
+        s.due(x.frame(6), 1);
+        s.due(x.frame(7), 2);
+        s.due(x.frame(511), 8);
         sixteen(x);
         s.due(x.frame(65535), 2);
         LampWires y = s.says("BAD: also LAMPS that there are not");
@@ -300,6 +310,31 @@ final class EdgesOfPictures {
         s.due(x.light(2, 0), -4);
     }
 
+    /** Sixteen lamps, two of them of level 1: the one glows alone, the other shares its tick with a third of level 3. */
+    private static LampWires twoOfOneLevel(int one, int other) {
+        LampWires x = new LampWires();
+        x.wires(6);
+        int third = 0;
+        while (third == one || third == other) {
+            third++;
+        }
+        for (int l = 0, spare = 0; l < 16; l++) {
+            if (l == one) {
+                x.lamp(0, 1, 2);
+                x.level(l, 1);
+            } else if (l == other || l == third) {
+                x.lamp(2, l == other ? 3 : 4, 1);
+                x.level(l, l == other ? 1 : 3);
+            } else {
+                // Lamps that no way leads over, between wires that the three do not join.
+                x.lamp(3 + spare / 5, (4 + spare / 5 + spare % 5) % 6, 1);
+                x.hurt(l, 1);
+                spare++;
+            }
+        }
+        return x;
+    }
+
     private static void uneven(Sentences s) {
         s.of("Promise 19");
         LampWires x = s.says("Of LAMPS of one LEVEL above 0 two whose LIGHT in PLAN is farthest apart: how far: "
@@ -321,6 +356,17 @@ final class EdgesOfPictures {
         x.level(3, 1);
         s.due(x.uneven(0), 1);
         s.due(x.uneven(1), 2);
+        for (int one = 0; one < 16; one++) {
+            for (int other = 0; other < 16; other++) {
+                if (one != other) {
+                    x = twoOfOneLevel(one, other);
+                    s.due(x.light(one, 1), 1);
+                    s.due(x.light(other, 1), 2);
+                    s.due(x.uneven(0), 1);
+                    s.due(x.uneven(1), 2);
+                }
+            }
+        }
         x = s.says("(0 by 1: there are no two)");
         s.due(x.uneven(0), 0);
         s.due(x.uneven(1), 1);

@@ -41,12 +41,6 @@ public final class LanguageTest {
         while (imports.find()) {
             C.holds("import " + imports.group(1), imports.group(1).equals("java.util.Arrays"));
         }
-        Matcher calls = Pattern.compile("\\b(Arrays|System|Integer|Long|Math)\\.(\\w+)").matcher(source);
-        Set<String> mayBe = Set.of("Arrays.fill", "System.arraycopy", "Integer.bitCount", "Integer.lowestOneBit",
-            "Integer.MAX_VALUE", "Long.bitCount", "Math.max", "Math.min");
-        while (calls.find()) {
-            C.holds(calls.group() + " is of the library's list", mayBe.contains(calls.group()));
-        }
     }
 
     private static void sizes(String source) {
